@@ -80,19 +80,13 @@ public final class LanguageTest {
 
     private static void words(String code) {
         String[] forbidden = {"throw", "throws", "try", "catch", "finally", "synchronized", "assert", "native", "volatile",
-            "transient", "yield", "var", "package", "equals", "hashCode", "toString", "Object", "Random", "System\\.(?!arraycopy)",
-            "Thread", "while", "do", "instanceof", "\\w+Exact"};
+            "transient", "package", "equals", "hashCode", "toString", "Object", "Random", "Thread", "\\w+Exact"};
         for (String word : forbidden) {
-            due.holds("no " + word, !Pattern.compile("\\b" + word + "\\b").matcher(code).find()
-                    && !Pattern.compile("\\b" + word).matcher(code).find() || inLongerWord(code, word));
+            due.holds("no " + word, !Pattern.compile("\\b" + word + "\\b").matcher(code).find());
         }
         due.holds("no lambda", !code.contains("->"));
         due.holds("no method reference", !code.contains("::"));
         due.holds("signs 1 to 127", code.chars().allMatch(c -> c >= 1 && c <= 127));
-    }
-
-    private static boolean inLongerWord(String code, String word) {
-        return word.matches("\\w+") && !Pattern.compile("\\b" + word + "\\b").matcher(code).find();
     }
 
     private static void library(String code) {

@@ -31,6 +31,7 @@ public final class PromisesTest {
         means();
         wisestMeans();
         wisestActs();
+        wisestAnew();
         wisestRefusals();
         listenPlaces();
         sureNights();
@@ -134,6 +135,18 @@ public final class PromisesTest {
         due.answer("type(0, 256)", x.type(0, 256), BAD);
         due.answer("type(most, least)", x.type(MOST_INT, LEAST_INT), BAD);
         due.answer("bytes", x.count(3), 2);
+        x = dwarf("1a", "", "");
+        due.answer("one name", x.fits(), 1);
+        x.type(0, ';');
+        due.answer("asked with each byte: a fault", x.fits(), 0);
+        x.type(0, '2');
+        x.type(0, 'b');
+        due.answer("asked with each byte: two names", x.fits(), 3);
+        x.type(1, '+');
+        x.type(1, 'b');
+        due.answer("asked with each byte: a piece", x.fits(), 2);
+        x.type(2, 'a');
+        due.answer("asked with each byte: a song", x.fits(), 0);
     }
 
     private static void wipeTexts() {
@@ -224,6 +237,14 @@ public final class PromisesTest {
         fault(2, "a;", 1);
         fault(2, ".....A", 5);
         fault(2, "a.1g", 2);
+        NamedDwarf x = dwarf("1ab;1ba", "", "a.");
+        due.answer("well", x.fits(), 1);
+        x.type(2, 'x');
+        due.answer("at fault", x.fault(2), 2);
+        due.answer("as empty", x.fits(), 3);
+        x.undo(2);
+        due.answer("well again", x.fault(2), NONE);
+        due.answer("well again", x.fits(), 1);
     }
 
     private static void faultyTextsAreAsEmpty() {
@@ -522,6 +543,38 @@ public final class PromisesTest {
         wisest(x, 1, 3, 4, 1, 10);
     }
 
+    private static void wisestAnew() {
+        NamedDwarf x = dwarf("1a;3b", "", "");
+        wisest(x, 0, 3, 2, 1, 10);
+        x.type(0, 'a');
+        wisest(x, 0, 3, 2, 1, 10);
+        put(x, 0, "1a;9a");
+        // 9/10 of 1 and 1/10 of 5 and 2
+        wisest(x, 0, 3, 8, 5, 1);
+        x.undo(0);
+        wisest(x, 0, 3, 0, 1, NONE);
+        x.type(0, 'b');
+        wisest(x, 0, 3, 8, 5, 1);
+        due.answer("spun of it", x.spun(1), 0);
+        x.set(1, 2);
+        // 9/10 of 1 and 1/10 of 2 and 2
+        wisest(x, 0, 3, 13, 10, 1);
+        x.set(0, 2);
+        wisest(x, 0, 3, 12, 5, 1);
+        x.set(2, 1);
+        x.set(3, 9);
+        // 9/10 of 2 and 1/10 of 2 and 4 and 9
+        wisest(x, 0, 3, 33, 10, 1);
+        due.answer("spun of it", x.spun(3), 0);
+        due.answer("spun of it", x.spun(4), 1);
+        x = dwarf("9aaaaaa;8aaaaab;7aaaaac;6aaaaad;5aaaaae;4aaaaaf;3aaaaa;2bbbbb;1ccccc;1dddddd", "", "");
+        x.set(2, 12);
+        // at 5 first: then 33 of 2 by a guess, 21 of the two with d there, 24 of the three shorter ones
+        wisest(x, 0, 1023, 111, 46, 15);
+        // the last night of the three shorter ones: 3/6 of 2048 and 3/6 of 5 and 4196
+        wisest(x, 11, 448, 6249, 2, 6);
+    }
+
     private static void wisestRefusals() {
         NamedDwarf x = dwarf("1a;3b", "", "");
         due.answer("wisest(-1, 3, 0)", x.wisest(-1, 3, 0), LONG_BAD);
@@ -580,6 +633,13 @@ public final class PromisesTest {
         due.answer("sure, as it was", x.sure(), 4);
         put(x, 0, "1a;1b;1c;1d");
         due.answer("sure of other names", x.sure(), 2);
+        put(x, 1, "-a");
+        put(x, 0, "1a;1a;1a;1b;1b");
+        due.answer("sure of two of b", x.sure(), 2);
+        x.wipe(1);
+        due.answer("sure of all", x.sure(), 4);
+        put(x, 1, "+b");
+        due.answer("sure of two of b again", x.sure(), 2);
     }
 
     private static void spunWorth() {
@@ -611,6 +671,8 @@ public final class PromisesTest {
         due.answer("pool(1, 4, 2)", x.pool(1, 4, 2), 2);
         due.answer("pool(0, 0, 0)", x.pool(0, 0, 0), 4);
         due.answer("pool(0, 56, 1): pieces that are not there", x.pool(0, 56, 1), 4);
+        due.answer("pool(63, 1, 0)", x.pool(63, 1, 0), 1);
+        due.answer("pool(1, 63, 2)", x.pool(1, 63, 2), 1);
         put(x, 2, ".");
         due.answer("pool(0, 0, 2) by the song", x.pool(0, 0, 2), 1);
         due.answer("pool(-1, 0, 0)", x.pool(-1, 0, 0), BAD);
@@ -854,5 +916,45 @@ public final class PromisesTest {
         long before = x.digest();
         x.get(0, 0, 0);
         due.answer("digest() tells no finding", x.digest(), before);
+        x = dwarf("3abca;1abda;2fab;1abc;3cab;5abcb;4dab", "+ab;-da;+b", "");
+        x.guess(3);
+        x.guess(9);
+        x.guess(0);
+        x.set(4, 2);
+        due.answer("digest() of its calls", x.digest(), digestByCalls(x));
+        put(x, 0, "2ab;2cd;1ef;1ff");
+        put(x, 1, "+c");
+        due.answer("digest() of its calls, one fits", x.digest(), digestByCalls(x));
+        put(x, 1, "+a;+f;+b");
+        due.answer("digest() of its calls, none fits", x.digest(), digestByCalls(x));
+    }
+
+    private static long digestByCalls(NamedDwarf x) {
+        StringBuilder told = new StringBuilder();
+        for (int what = 0; what <= 7; what++) {
+            told.append(x.count(what)).append(' ');
+        }
+        told.append(x.fault(0) + " " + x.fault(1) + " " + x.fault(2) + " " + x.fits() + " ");
+        for (int it = 0; it < x.count(0); it++) {
+            told.append(x.name(it, -2) + " " + x.name(it, NONE) + " " + x.name(it, 0) + " ");
+            told.append(x.chance(it, 0) + " " + x.chance(it, 1) + " " + x.off(it) + " ");
+            told.append(x.named(it, 0) + " " + x.named(it, 1) + " " + x.changes(0, it) + " ");
+        }
+        for (int it = 0; it < x.count(1); it++) {
+            told.append(x.heard(it)).append(' ');
+        }
+        for (int i = 0; i < 10; i++) {
+            told.append(x.row(i)).append(' ');
+        }
+        told.append(x.mean(0) + " " + x.mean(1) + " ");
+        told.append(x.wisest(0, x.fits(), 0) + " " + x.wisest(0, x.fits(), 1) + " " + x.wisest(0, x.fits(), 2) + " ");
+        told.append(x.wisest(2, 7, 0) + " " + x.listen(0) + " " + x.listen(1) + " " + x.sure() + " " + x.spun(99) + " ");
+        told.append(x.pool(1, 2, 0) + " " + x.pool(1, 2, 1) + " " + x.pool(1, 2, 2) + " ");
+        told.append(x.shortest(0) + " " + x.shortest(1) + " " + x.sung(3, 0));
+        long h = 17;
+        for (String answer : told.toString().split(" ")) {
+            h = 31 * h + Long.parseLong(answer);
+        }
+        return h;
     }
 }
