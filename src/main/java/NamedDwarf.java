@@ -1094,7 +1094,8 @@ public final class NamedDwarf {
         private static final int UNKNOWN = -1, ACTS = MOST_NAMES + PLACES;
         private final Names names;
         private final Deal deal;
-        private final int[] least = new int[MOST_NIGHTS << MOST_NAMES];
+        // by far the longest row, so it is made only for an object that is asked for what is wisest
+        private int[] least = new int[0];
         private boolean stale = true;
 
         Wise(Names names, Deal deal) {
@@ -1110,6 +1111,9 @@ public final class NamedDwarf {
         void makeReady() {
             if (stale) {
                 stale = false;
+                if (least.length == 0) {
+                    least = new int[MOST_NIGHTS << MOST_NAMES];
+                }
                 int used = Math.min(least.length, deal.nights() << names.size());
                 for (int slot = 0; slot < used; slot++) {
                     least[slot] = UNKNOWN;
@@ -1130,8 +1134,8 @@ public final class NamedDwarf {
             return NONE;
         }
 
-        /** The least sum of all that is paid from a night on. */
-        int leastFrom(int night, int left) {
+        /** The least sum of all that is paid from a night on; it asks itself for the nights behind, 12 at most. */
+        private int leastFrom(int night, int left) {
             if (left == 0) {
                 return 0;
             }

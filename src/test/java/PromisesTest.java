@@ -1,10 +1,10 @@
 /** Each promise of the document: ordinary calls, the edges that it names, and wrong ones, reckoned by hand. */
 public final class PromisesTest {
-    private static final int NONE = NamedDwarf.NONE, BAD = NamedDwarf.BAD, NOT = NamedDwarf.NOT, FULL = NamedDwarf.FULL;
-    private static final long LONG_BAD = Long.MIN_VALUE + 2, LONG_NOT = Long.MIN_VALUE + 3;
-    private static final int NULL = -11, INDEX = -12, CAST = -13, STORE = -14, SIZE = -15;
-    private static final int LEAST_INT = Integer.MIN_VALUE, MOST_INT = Integer.MAX_VALUE;
-    private static final String TEN = "1a;1b;1c;1d;1e;1f;1aa;1bb;1cc;1dd";
+    private static final int NONE = Scene.NONE, BAD = Scene.BAD, NOT = Scene.NOT, FULL = Scene.FULL;
+    private static final long LONG_BAD = Scene.LONG_BAD, LONG_NOT = Scene.LONG_NOT;
+    private static final int NULL = Scene.NULL, INDEX = Scene.INDEX, CAST = Scene.CAST, STORE = Scene.STORE, SIZE = Scene.SIZE;
+    private static final int LEAST_INT = Scene.LEAST_INT, MOST_INT = Scene.MOST_INT;
+    private static final String TEN = Scene.TEN;
     private static final Due due = new Due("PromisesTest");
 
     public static void main(String[] args) {
@@ -51,29 +51,14 @@ public final class PromisesTest {
         due.end();
     }
 
-    private static void put(NamedDwarf x, int text, String bytes) {
-        x.wipe(text);
-        for (int i = 0; i < bytes.length(); i++) {
-            x.type(text, bytes.charAt(i));
-        }
-    }
-
-    private static NamedDwarf dwarf(String names, String pieces, String song) {
-        NamedDwarf x = new NamedDwarf();
-        put(x, 0, names);
-        put(x, 1, pieces);
-        put(x, 2, song);
-        return x;
-    }
-
     private static void fault(int text, String bytes, int place) {
         NamedDwarf x = new NamedDwarf();
-        put(x, text, bytes);
+        Scene.put(x, text, bytes);
         due.answer("fault(" + text + ") of " + bytes, x.fault(text), place);
     }
 
     private static void fits(String names, String pieces, String song, int bits) {
-        NamedDwarf x = dwarf(names, pieces, song);
+        NamedDwarf x = Scene.dwarf(names, pieces, song);
         due.answer("fits() of " + names + ", " + pieces + ", " + song, x.fits(), bits);
         due.answer("count(7) of them", x.count(7), Integer.bitCount(bits));
     }
@@ -109,7 +94,7 @@ public final class PromisesTest {
         for (int what = 0; what < deal.length; what++) {
             due.answer("new: set(" + what + ")", x.set(what, 1), deal[what]);
         }
-        NamedDwarf other = dwarf("1a", "", "");
+        NamedDwarf other = Scene.dwarf("1a", "", "");
         other.guess(0);
         due.answer("another object's names", new NamedDwarf().count(0), 0);
         due.answer("another object's guesses", new NamedDwarf().count(6), 0);
@@ -135,7 +120,7 @@ public final class PromisesTest {
         due.answer("type(0, 256)", x.type(0, 256), BAD);
         due.answer("type(most, least)", x.type(MOST_INT, LEAST_INT), BAD);
         due.answer("bytes", x.count(3), 2);
-        x = dwarf("1a", "", "");
+        x = Scene.dwarf("1a", "", "");
         due.answer("one name", x.fits(), 1);
         x.type(0, ';');
         due.answer("asked with each byte: a fault", x.fits(), 0);
@@ -150,7 +135,7 @@ public final class PromisesTest {
     }
 
     private static void wipeTexts() {
-        NamedDwarf x = dwarf("1a;2b", "+a", "..");
+        NamedDwarf x = Scene.dwarf("1a;2b", "+a", "..");
         due.answer("wipe(1)", x.wipe(1), 2);
         due.answer("wipe(0)", x.wipe(0), 5);
         due.answer("wipe(0) again", x.wipe(0), 0);
@@ -162,7 +147,7 @@ public final class PromisesTest {
     }
 
     private static void undoBytes() {
-        NamedDwarf x = dwarf("1a;2b", "", "");
+        NamedDwarf x = Scene.dwarf("1a;2b", "", "");
         due.answer("undo(0)", x.undo(0), 4);
         due.answer("fault behind undo", x.fault(0), 4);
         due.answer("undo(0)", x.undo(0), 3);
@@ -237,7 +222,7 @@ public final class PromisesTest {
         fault(2, "a;", 1);
         fault(2, ".....A", 5);
         fault(2, "a.1g", 2);
-        NamedDwarf x = dwarf("1ab;1ba", "", "a.");
+        NamedDwarf x = Scene.dwarf("1ab;1ba", "", "a.");
         due.answer("well", x.fits(), 1);
         x.type(2, 'x');
         due.answer("at fault", x.fault(2), 2);
@@ -248,24 +233,24 @@ public final class PromisesTest {
     }
 
     private static void faultyTextsAreAsEmpty() {
-        NamedDwarf x = dwarf("1ab;2ba;", "+a", "a.");
+        NamedDwarf x = Scene.dwarf("1ab;2ba;", "+a", "a.");
         due.answer("faulty names: count(0)", x.count(0), 0);
         due.answer("faulty names: count(3)", x.count(3), 8);
         due.answer("faulty names: fits()", x.fits(), 0);
         due.answer("faulty names: name", x.name(0, 0), BAD);
-        x = dwarf("1ab;2ba", "+ab;", "");
+        x = Scene.dwarf("1ab;2ba", "+ab;", "");
         due.answer("faulty pieces: count(1)", x.count(1), 0);
         due.answer("faulty pieces: count(4)", x.count(4), 4);
         due.answer("faulty pieces: fits()", x.fits(), 3);
         due.answer("faulty pieces: heard", x.heard(0), BAD);
-        x = dwarf("1ab;2ba", "", "a;");
+        x = Scene.dwarf("1ab;2ba", "", "a;");
         due.answer("faulty song: count(2)", x.count(2), 0);
         due.answer("faulty song: count(5)", x.count(5), 2);
         due.answer("faulty song: fits()", x.fits(), 3);
     }
 
     private static void nameParts() {
-        NamedDwarf x = dwarf("3abf;9fedcba", "", "");
+        NamedDwarf x = Scene.dwarf("3abf;9fedcba", "", "");
         due.answer("ODDS", x.name(0, NONE), 3);
         due.answer("ODDS", x.name(1, NONE), 9);
         due.answer("length", x.name(0, -2), 3);
@@ -279,11 +264,11 @@ public final class PromisesTest {
         due.answer("name(-1, 0)", x.name(-1, 0), BAD);
         due.answer("name(0, 6)", x.name(0, 6), BAD);
         due.answer("name(0, -3)", x.name(0, -3), BAD);
-        put(x, 0, TEN);
+        Scene.put(x, 0, TEN);
         due.answer("name(9, -2)", x.name(9, -2), 2);
         due.answer("name(9, 1)", x.name(9, 1), 3);
         due.answer("name(10, 1)", x.name(10, 1), BAD);
-        put(x, 0, "1a");
+        Scene.put(x, 0, "1a");
         due.answer("a shorter one in its stead", x.name(0, 1), NONE);
     }
 
@@ -317,7 +302,7 @@ public final class PromisesTest {
     }
 
     private static void unguessNames() {
-        NamedDwarf x = dwarf("1a;1b", "", "");
+        NamedDwarf x = Scene.dwarf("1a;1b", "", "");
         due.answer("unguess of none", x.unguess(), NOT);
         x.guess(0);
         x.guess(1);
@@ -330,7 +315,7 @@ public final class PromisesTest {
     }
 
     private static void readSheets() {
-        NamedDwarf x = dwarf("1a;1b", "", "");
+        NamedDwarf x = Scene.dwarf("1a;1b", "", "");
         x.guess(5);
         due.answer("read(-1)", x.read(-1), BAD);
         due.answer("read(4)", x.read(4), BAD);
@@ -381,37 +366,37 @@ public final class PromisesTest {
     }
 
     private static void chances() {
-        NamedDwarf x = dwarf("3a;2b;1ab;4bb", "", "");
+        NamedDwarf x = Scene.dwarf("3a;2b;1ab;4bb", "", "");
         fraction("chance(0)", x.chance(0, 0), x.chance(0, 1), 3, 10);
         fraction("chance(1)", x.chance(1, 0), x.chance(1, 1), 1, 5);
-        put(x, 1, "+a");
+        Scene.put(x, 1, "+a");
         fraction("chance(0) by a", x.chance(0, 0), x.chance(0, 1), 3, 4);
         fraction("chance(1) by a", x.chance(1, 0), x.chance(1, 1), 0, 1);
-        put(x, 1, "+ab");
+        Scene.put(x, 1, "+ab");
         fraction("chance(2) alone", x.chance(2, 0), x.chance(2, 1), 1, 1);
         due.answer("chance(4, 0)", x.chance(4, 0), LONG_BAD);
         due.answer("chance(-1, 0)", x.chance(-1, 0), LONG_BAD);
         due.answer("chance(0, 2)", x.chance(0, 2), LONG_BAD);
         due.answer("chance(0, -1)", x.chance(0, -1), LONG_BAD);
-        put(x, 1, "+f");
+        Scene.put(x, 1, "+f");
         due.answer("chance, none fits", x.chance(0, 0), LONG_NOT);
         due.answer("chance, none fits", x.chance(0, 1), LONG_NOT);
         due.answer("chance, bad ahead of none", x.chance(0, 2), LONG_BAD);
     }
 
     private static void heardByOne() {
-        NamedDwarf x = dwarf("1ab;1ba;1c", "+ab;-ab;+c", "ab");
+        NamedDwarf x = Scene.dwarf("1ab;1ba;1c", "+ab;-ab;+c", "ab");
         due.answer("heard(0)", x.heard(0), 1);
         due.answer("heard(1)", x.heard(1), 6);
         due.answer("heard(2), whatever the song", x.heard(2), 4);
         due.answer("heard(3)", x.heard(3), BAD);
         due.answer("heard(-1)", x.heard(-1), BAD);
-        put(x, 0, "");
+        Scene.put(x, 0, "");
         due.answer("heard(1) of no names", x.heard(1), 0);
     }
 
     private static void offByOne() {
-        NamedDwarf x = dwarf("1abc;1abd;1bbc;1abc;1acd;1ab;1abcd;1bbd", "", "");
+        NamedDwarf x = Scene.dwarf("1abc;1abd;1bbc;1abc;1acd;1ab;1abcd;1bbd", "", "");
         due.answer("off(0)", x.off(0), 2 + 4);
         due.answer("off(1)", x.off(1), 1 + 8 + 16 + 128);
         due.answer("off(3)", x.off(3), 2 + 4);
@@ -420,12 +405,12 @@ public final class PromisesTest {
         due.answer("off(7)", x.off(7), 2 + 4);
         due.answer("off(8)", x.off(8), BAD);
         due.answer("off(-1)", x.off(-1), BAD);
-        put(x, 1, "+f");
+        Scene.put(x, 1, "+f");
         due.answer("off, whatever fits", x.off(0), 6);
     }
 
     private static void namedByGuesses() {
-        NamedDwarf x = dwarf("1a;1b;1a", "", "");
+        NamedDwarf x = Scene.dwarf("1a;1b;1a", "", "");
         due.answer("no guess", x.named(0, 0), NONE);
         due.answer("no guess: 1024 and 100", x.named(0, 1), 1124);
         int[] guesses = {1, 7, 1, 0, 2};
@@ -459,7 +444,7 @@ public final class PromisesTest {
     }
 
     private static void rows() {
-        NamedDwarf x = dwarf("2a;9b;2c;5aa;9ab;1f", "-f", "");
+        NamedDwarf x = Scene.dwarf("2a;9b;2c;5aa;9ab;1f", "-f", "");
         int[] row = {1, 4, 3, 0, 2, NONE, NONE, NONE, NONE, NONE};
         for (int i = 0; i < row.length; i++) {
             due.answer("row(" + i + ")", x.row(i), row[i]);
@@ -468,22 +453,22 @@ public final class PromisesTest {
         due.answer("row, also those too late", x.row(4), 2);
         due.answer("row(10)", x.row(10), BAD);
         due.answer("row(-1)", x.row(-1), BAD);
-        put(x, 0, TEN);
-        put(x, 1, "");
+        Scene.put(x, 0, TEN);
+        Scene.put(x, 1, "");
         due.answer("row(9) of ten", x.row(9), 9);
     }
 
     private static void means() {
-        NamedDwarf x = dwarf("1a;3b;2c", "", "");
+        NamedDwarf x = Scene.dwarf("1a;3b;2c", "", "");
         fraction("3 of 1, 2 of 7, 1 of 14", x.mean(0), x.mean(1), 31, 6);
         x.set(4, 3);
         fraction("3 of 1, 2 of 6, 1 of 11", x.mean(0), x.mean(1), 13, 3);
         x.set(4, 1);
         x.set(2, 2);
         fraction("3 of 1, 2 of 7, 1 of 4, 100 and 10", x.mean(0), x.mean(1), 131, 6);
-        put(x, 1, "+b");
+        Scene.put(x, 1, "+b");
         fraction("one alone", x.mean(0), x.mean(1), 1, 1);
-        put(x, 1, "+f");
+        Scene.put(x, 1, "+f");
         due.answer("mean(0), none fits", x.mean(0), LONG_NOT);
         due.answer("mean(1), none fits", x.mean(1), LONG_NOT);
         due.answer("mean(2)", x.mean(2), LONG_BAD);
@@ -497,7 +482,7 @@ public final class PromisesTest {
     }
 
     private static void wisestMeans() {
-        NamedDwarf x = dwarf("1a;3b", "+f", "ffffff");
+        NamedDwarf x = Scene.dwarf("1a;3b", "+f", "ffffff");
         // to listen: 2; to guess the likelier: 3/4 of 1 and 1/4 of 5 and 2
         wisest(x, 0, 3, 2, 1, 10);
         wisest(x, 0, 1023, 2, 1, 10);
@@ -521,13 +506,13 @@ public final class PromisesTest {
     }
 
     private static void wisestActs() {
-        NamedDwarf x = dwarf("1aa;1aa;1ab;1ba", "", "");
+        NamedDwarf x = Scene.dwarf("1aa;1aa;1ab;1ba", "", "");
         // of two that none can tell apart by listening the least is guessed
         wisest(x, 0, 3, 4, 1, 0);
         // listening at 1, as 0 tells nothing of them
         wisest(x, 0, 5, 2, 1, 11);
         // the place behind the shorter one's end
-        x = dwarf("1ab;1abc", "", "");
+        x = Scene.dwarf("1ab;1abc", "", "");
         wisest(x, 0, 3, 2, 1, 12);
         // a guess and the listening cost alike: 1/2 of 1 and 1/2 of 1 and 2
         x.set(1, 1);
@@ -544,11 +529,11 @@ public final class PromisesTest {
     }
 
     private static void wisestAnew() {
-        NamedDwarf x = dwarf("1a;3b", "", "");
+        NamedDwarf x = Scene.dwarf("1a;3b", "", "");
         wisest(x, 0, 3, 2, 1, 10);
         x.type(0, 'a');
         wisest(x, 0, 3, 2, 1, 10);
-        put(x, 0, "1a;9a");
+        Scene.put(x, 0, "1a;9a");
         // 9/10 of 1 and 1/10 of 5 and 2
         wisest(x, 0, 3, 8, 5, 1);
         x.undo(0);
@@ -567,7 +552,7 @@ public final class PromisesTest {
         wisest(x, 0, 3, 33, 10, 1);
         due.answer("spun of it", x.spun(3), 0);
         due.answer("spun of it", x.spun(4), 1);
-        x = dwarf("9aaaaaa;8aaaaab;7aaaaac;6aaaaad;5aaaaae;4aaaaaf;3aaaaa;2bbbbb;1ccccc;1dddddd", "", "");
+        x = Scene.dwarf("9aaaaaa;8aaaaab;7aaaaac;6aaaaad;5aaaaae;4aaaaaf;3aaaaa;2bbbbb;1ccccc;1dddddd", "", "");
         x.set(2, 12);
         // at 5 first: then 33 of 2 by a guess, 21 of the two with d there, 24 of the three shorter ones
         wisest(x, 0, 1023, 111, 46, 15);
@@ -576,7 +561,7 @@ public final class PromisesTest {
     }
 
     private static void wisestRefusals() {
-        NamedDwarf x = dwarf("1a;3b", "", "");
+        NamedDwarf x = Scene.dwarf("1a;3b", "", "");
         due.answer("wisest(-1, 3, 0)", x.wisest(-1, 3, 0), LONG_BAD);
         due.answer("wisest(11, 3, 0)", x.wisest(11, 3, 0), LONG_BAD);
         due.answer("wisest(0, -1, 0)", x.wisest(0, -1, 0), LONG_BAD);
@@ -591,28 +576,28 @@ public final class PromisesTest {
     }
 
     private static void listenPlaces() {
-        NamedDwarf x = dwarf("1aab;1abb;1aca;1aba", "", "");
+        NamedDwarf x = Scene.dwarf("1aab;1abb;1aca;1aba", "", "");
         due.answer("listen(0): of 1 and 2 two at worst, the least", x.listen(0), 1);
         due.answer("listen(1)", x.listen(1), 2);
-        put(x, 1, "-ab");
+        Scene.put(x, 1, "-ab");
         due.answer("listen(0) of the third alone", x.listen(0), 0);
         due.answer("listen(1) of the third alone", x.listen(1), 1);
-        put(x, 1, "");
-        put(x, 0, "1a;1ab;1abc");
+        Scene.put(x, 1, "");
+        Scene.put(x, 0, "1a;1ab;1abc");
         due.answer("listen(0): behind the shortest", x.listen(0), 1);
         due.answer("listen(1): two of b", x.listen(1), 2);
-        put(x, 1, "+b");
+        Scene.put(x, 1, "+b");
         due.answer("listen(0) of the longer two", x.listen(0), 2);
         due.answer("listen(2)", x.listen(2), BAD);
         due.answer("listen(-1)", x.listen(-1), BAD);
-        put(x, 1, "+f");
+        Scene.put(x, 1, "+f");
         due.answer("listen(0), none fits", x.listen(0), NOT);
         due.answer("listen(1), none fits", x.listen(1), NOT);
         due.answer("listen(2), none fits", x.listen(2), BAD);
     }
 
     private static void sure(String names, String pieces, int nights) {
-        due.answer("sure() of " + names + ", " + pieces, dwarf(names, pieces, "").sure(), nights);
+        due.answer("sure() of " + names + ", " + pieces, Scene.dwarf(names, pieces, "").sure(), nights);
     }
 
     private static void sureNights() {
@@ -627,23 +612,23 @@ public final class PromisesTest {
         sure("1a;1a;1a;1b;1c", "", 4);
         sure("1a;1a;1a;1a;1a;1a;1a;1a;1a;1a", "", 10);
         sure("1aaaaaa;1aaaaab;1aaaabb;1aaabbb;1aabbbb;1abbbbb;1bbbbbb", "", 4);
-        NamedDwarf x = dwarf("1a;1a;1a;1a", "", "");
+        NamedDwarf x = Scene.dwarf("1a;1a;1a;1a", "", "");
         x.set(2, 1);
         due.answer("sure, NIGHTS aside", x.sure(), 4);
         due.answer("sure, as it was", x.sure(), 4);
-        put(x, 0, "1a;1b;1c;1d");
+        Scene.put(x, 0, "1a;1b;1c;1d");
         due.answer("sure of other names", x.sure(), 2);
-        put(x, 1, "-a");
-        put(x, 0, "1a;1a;1a;1b;1b");
+        Scene.put(x, 1, "-a");
+        Scene.put(x, 0, "1a;1a;1a;1b;1b");
         due.answer("sure of two of b", x.sure(), 2);
         x.wipe(1);
         due.answer("sure of all", x.sure(), 4);
-        put(x, 1, "+b");
+        Scene.put(x, 1, "+b");
         due.answer("sure of two of b again", x.sure(), 2);
     }
 
     private static void spunWorth() {
-        NamedDwarf x = dwarf("1a;3b;1ab", "", ".");
+        NamedDwarf x = Scene.dwarf("1a;3b;1ab", "", ".");
         due.answer("spun(2): just so much", x.spun(2), 1);
         due.answer("spun(1)", x.spun(1), 0);
         due.answer("spun(0)", x.spun(0), 0);
@@ -654,16 +639,16 @@ public final class PromisesTest {
         due.answer("spun(2) of 5/4", x.spun(2), 1);
         due.answer("spun(-1)", x.spun(-1), BAD);
         due.answer("spun(100000)", x.spun(100000), BAD);
-        put(x, 2, "f");
+        Scene.put(x, 2, "f");
         due.answer("spun, none fits", x.spun(9), NOT);
         due.answer("spun, bad ahead of none", x.spun(100000), BAD);
-        put(x, 2, ".");
+        Scene.put(x, 2, ".");
         x.set(0, 99);
         due.answer("spun of another deal", x.spun(2), 0);
     }
 
     private static void pools() {
-        NamedDwarf x = dwarf("1ab;1ba;1ac;1c", "+a;+ab;-c", "");
+        NamedDwarf x = Scene.dwarf("1ab;1ba;1ac;1c", "+a;+ab;-c", "");
         due.answer("pool(1, 4, 0)", x.pool(1, 4, 0), 3);
         due.answer("pool(1, 4, 1)", x.pool(1, 4, 1), 2);
         due.answer("pool(3, 4, 0)", x.pool(3, 4, 0), 1);
@@ -673,7 +658,7 @@ public final class PromisesTest {
         due.answer("pool(0, 56, 1): pieces that are not there", x.pool(0, 56, 1), 4);
         due.answer("pool(63, 1, 0)", x.pool(63, 1, 0), 1);
         due.answer("pool(1, 63, 2)", x.pool(1, 63, 2), 1);
-        put(x, 2, ".");
+        Scene.put(x, 2, ".");
         due.answer("pool(0, 0, 2) by the song", x.pool(0, 0, 2), 1);
         due.answer("pool(-1, 0, 0)", x.pool(-1, 0, 0), BAD);
         due.answer("pool(64, 0, 0)", x.pool(64, 0, 0), BAD);
@@ -684,27 +669,27 @@ public final class PromisesTest {
     }
 
     private static void shortestPieces() {
-        NamedDwarf x = dwarf("1ab;1ba;1ac;1c", "+a;+ab;-c", "");
+        NamedDwarf x = Scene.dwarf("1ab;1ba;1ac;1c", "+a;+ab;-c", "");
         due.answer("shortest(0)", x.shortest(0), 1);
         due.answer("shortest(1)", x.shortest(1), 2);
-        put(x, 1, "+a;-c;+b");
+        Scene.put(x, 1, "+a;-c;+b");
         due.answer("shortest(1): of 2 and 4 the least", x.shortest(1), 2);
-        put(x, 1, "+a;+b;-ba");
+        Scene.put(x, 1, "+a;+b;-ba");
         due.answer("shortest(0): two", x.shortest(0), 2);
         due.answer("shortest(1): b, not ba", x.shortest(1), 6);
-        put(x, 2, "..");
-        put(x, 1, "+a");
+        Scene.put(x, 2, "..");
+        Scene.put(x, 1, "+a");
         due.answer("shortest(0), the song does it", x.shortest(0), 0);
         due.answer("shortest(1), the song does it", x.shortest(1), 0);
-        put(x, 2, "");
-        put(x, 1, "-d;-d;-d;-d;-d;+ba");
+        Scene.put(x, 2, "");
+        Scene.put(x, 1, "-d;-d;-d;-d;-d;+ba");
         due.answer("shortest(1), the sixth", x.shortest(1), 32);
         due.answer("shortest(2)", x.shortest(2), BAD);
         due.answer("shortest(-1)", x.shortest(-1), BAD);
     }
 
     private static void sungSongs() {
-        NamedDwarf x = dwarf("1abc;1abd;1acc;1ab;1fbcdef", "+f", "f");
+        NamedDwarf x = Scene.dwarf("1abc;1abd;1acc;1ab;1fbcdef", "+f", "f");
         due.answer("sung(3, 0)", x.sung(3, 0), 'a');
         due.answer("sung(3, 1)", x.sung(3, 1), 'b');
         due.answer("sung(3, 2)", x.sung(3, 2), '.');
@@ -723,7 +708,7 @@ public final class PromisesTest {
     }
 
     private static void changesByOne() {
-        NamedDwarf x = dwarf("1aa;1ab;1bb;1aa;1cc;1bc;1abb", "+f", "f");
+        NamedDwarf x = Scene.dwarf("1aa;1ab;1bb;1aa;1cc;1bc;1abb", "+f", "f");
         due.answer("changes(0, 0)", x.changes(0, 0), 0);
         due.answer("changes(0, 1)", x.changes(0, 1), 1);
         due.answer("changes(0, 2)", x.changes(0, 2), 2);
@@ -734,9 +719,9 @@ public final class PromisesTest {
         due.answer("changes(0, 7)", x.changes(0, 7), BAD);
         due.answer("changes(7, 7)", x.changes(7, 7), BAD);
         due.answer("changes(-1, 0)", x.changes(-1, 0), BAD);
-        put(x, 0, "1aa;1aa");
+        Scene.put(x, 0, "1aa;1aa");
         due.answer("changes(0, 1), by way of others alone", x.changes(0, 1), NONE);
-        put(x, 0, "1aaa;1baa;1bba;1bbb;1cbb;1ccb;1ccc;1dcc;1ddc;1ddd");
+        Scene.put(x, 0, "1aaa;1baa;1bba;1bbb;1cbb;1ccb;1ccc;1dcc;1ddc;1ddd");
         due.answer("changes(0, 9)", x.changes(0, 9), 9);
     }
 
@@ -858,7 +843,7 @@ public final class PromisesTest {
     }
 
     private static void writeRows() {
-        NamedDwarf x = dwarf("1a;3b;2c", "", "");
+        NamedDwarf x = Scene.dwarf("1a;3b;2c", "", "");
         due.answer("write(-1)", x.write(-1), BAD);
         due.answer("write(4)", x.write(4), BAD);
         due.answer("write to a lost one", x.write(0), NULL);
@@ -869,18 +854,18 @@ public final class PromisesTest {
         items(x, 0, 0, 1, 2);
         due.answer("write, as many as fit", x.write(1), 3);
         items(x, 1, 2, 1, 2, 0, 77, 0);
-        put(x, 1, "+f");
+        Scene.put(x, 1, "+f");
         due.answer("write, none fits", x.write(1), 0);
     }
 
     private static void counts() {
-        NamedDwarf x = dwarf("1a;2b;3ab", "+a;-b", "...");
+        NamedDwarf x = Scene.dwarf("1a;2b;3ab", "+a;-b", "...");
         x.guess(3);
         int[] want = {3, 2, 3, 9, 5, 3, 1, 0, 0};
         for (int what = 0; what < want.length; what++) {
             due.answer("count(" + what + ")", x.count(what), want[what]);
         }
-        put(x, 2, "");
+        Scene.put(x, 2, "");
         due.answer("count(7)", x.count(7), 1);
         due.answer("count(9)", x.count(9), BAD);
         due.answer("count(-1)", x.count(-1), BAD);
@@ -903,7 +888,7 @@ public final class PromisesTest {
                 0, 0, 0, 0, 0, 0, 0, 0, NONE, NONE, NONE, 0,
                 NONE, NONE, NONE, NONE, NONE, NONE, NONE, NONE, NONE, NONE,
                 LONG_NOT, LONG_NOT, 0, 1, NONE, 0, NOT, NOT, 0, NOT, 0, 0, 0, 0, 0, BAD));
-        NamedDwarf x = dwarf("3ab;2bb", "+a;-c", "..");
+        NamedDwarf x = Scene.dwarf("3ab;2bb", "+a;-c", "..");
         x.guess(1);
         x.set(2, 1);
         due.answer("digest() of two names", x.digest(), mixed(
@@ -916,16 +901,16 @@ public final class PromisesTest {
         long before = x.digest();
         x.get(0, 0, 0);
         due.answer("digest() tells no finding", x.digest(), before);
-        x = dwarf("3abca;1abda;2fab;1abc;3cab;5abcb;4dab", "+ab;-da;+b", "");
+        x = Scene.dwarf("3abca;1abda;2fab;1abc;3cab;5abcb;4dab", "+ab;-da;+b", "");
         x.guess(3);
         x.guess(9);
         x.guess(0);
         x.set(4, 2);
         due.answer("digest() of its calls", x.digest(), digestByCalls(x));
-        put(x, 0, "2ab;2cd;1ef;1ff");
-        put(x, 1, "+c");
+        Scene.put(x, 0, "2ab;2cd;1ef;1ff");
+        Scene.put(x, 1, "+c");
         due.answer("digest() of its calls, one fits", x.digest(), digestByCalls(x));
-        put(x, 1, "+a;+f;+b");
+        Scene.put(x, 1, "+a;+f;+b");
         due.answer("digest() of its calls, none fits", x.digest(), digestByCalls(x));
     }
 
