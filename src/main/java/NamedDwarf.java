@@ -16,6 +16,9 @@ public final class NamedDwarf {
     private static final int MOST_NIGHTS = 12, MOST_GUESSES = 12;
     private static final int SHEETS = 4, FORMS = 3, MOST_ITEMS = 60;
     private static final int DONE = 1;
+    // of Integer and Long the language lists functions alone, so the ends are told here
+    private static final int LEAST_INT = 1 << 31, MOST_INT = ~LEAST_INT;
+    private static final long LEAST_LONG = 1L << 63;
 
     private final Text[] texts = {new Text(80), new Text(40), new Text(6)};
     private final Names names = new Names();
@@ -331,7 +334,7 @@ public final class NamedDwarf {
     }
 
     public int get(int s, int form, int i) {
-        return lookFor(s, form, i) == DONE ? sheets[s].item(i) : Integer.MIN_VALUE;
+        return lookFor(s, form, i) == DONE ? sheets[s].item(i) : LEAST_INT;
     }
 
     public int copy(int s, int i, int t, int j, int n) {
@@ -520,7 +523,7 @@ public final class NamedDwarf {
     }
 
     private static long asLong(int refusal) {
-        return Long.MIN_VALUE - refusal;
+        return LEAST_LONG - refusal;
     }
 
     private static int letterOf(int b) {
@@ -1144,7 +1147,7 @@ public final class NamedDwarf {
                 return sumUnnamed(left);
             }
             if (least[slot] == UNKNOWN) {
-                int sum = Integer.MAX_VALUE;
+                int sum = MOST_INT;
                 for (int act = 0; act < ACTS; act++) {
                     sum = Math.min(sum, sumOf(act, night, left));
                 }
@@ -1159,7 +1162,7 @@ public final class NamedDwarf {
 
         private int sumOfGuess(int name, int night, int left) {
             if ((left & 1 << name) == 0) {
-                return Integer.MAX_VALUE;
+                return MOST_INT;
             }
             int others = left & ~(1 << name);
             return names.oddsOf(name) * deal.promised(night)
